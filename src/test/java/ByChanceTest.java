@@ -1,0 +1,156 @@
+import java.util.Random;
+
+/** Runs of calls by chance, answered by CutsOrFast and by Slow: both must answer alike. */
+public final class ByChanceTest {
+    private static final String[] CALLS = {"letters", "blank", "fault", "net", "lane", "status", "begin", "take", "back",
+        "whose", "by", "answer", "lost", "ways", "parting", "mend", "bought", "likely", "player", "as", "move", "game",
+        "image", "restore", "count", "digest"};
+
+    public static void main(String[] args) {
+        long from = args.length > 0 ? Long.parseLong(args[0]) : 1;
+        int runs = args.length > 1 ? Integer.parseInt(args[1]) : 120;
+        Check check = new Check("ByChanceTest");
+        for (int run = 0; run < runs; run++) {
+            run(check, from + run);
+        }
+        check.end();
+    }
+
+    private static void run(Check check, long seed) {
+        Random r = new Random(seed);
+        CutsOrFast x = new CutsOrFast();
+        Slow y = new Slow();
+        int small = 3 + r.nextInt(4);
+        for (int i = 0; i < 200; i++) {
+            if (r.nextInt(20) == 0 || i == 3) {
+                writeNet(r, x, y, small);
+            }
+            String call = CALLS[r.nextInt(CALLS.length)];
+            if (r.nextInt(4) == 0) {
+                call = "take";
+            }
+            int[] a = {number(r), number(r), r.nextInt(9) == 0 ? -r.nextInt(9) : r.nextInt() & 0x7fffffff, number(r)};
+            long w = word(r);
+            long got = ask(x, call, a, w);
+            long want = ask(y, call, a, w);
+            check.due("seed " + seed + ", call " + i + ": " + call, got, want);
+            if (call.equals("net") || i % 40 == 39) {
+                check.due("seed " + seed + ", call " + i + ": digest behind " + call, x.digest(), y.digest());
+                if (y.count(0) > 0) {
+                    check.due("seed " + seed + ", two trees", (x.whose(1) == 0) == y.hasByTwoTrees());
+                }
+            }
+        }
+    }
+
+    private static int number(Random r) {
+        int kind = r.nextInt(12);
+        if (kind == 0) {
+            return r.nextInt();
+        }
+        return kind == 1 ? r.nextInt(14) - 2 : kind < 7 ? r.nextInt(3) : r.nextInt(9);
+    }
+
+    private static long word(Random r) {
+        if (r.nextInt(8) == 0) {
+            return r.nextLong();
+        }
+        return Check.packed("ab:,+-123acdfgh".substring(r.nextInt(7)).substring(0, r.nextInt(5)));
+    }
+
+    /** Mostly a right text, at times with one letter wrong. */
+    private static void writeNet(Random r, CutsOrFast x, Slow y, int places) {
+        StringBuilder text = new StringBuilder(pair(r, places)).append(':');
+        int lanes = 1 + Math.max(r.nextInt(9), r.nextInt(9));
+        for (int i = 0; i < lanes; i++) {
+            text.append(i == 0 ? "" : ",").append(pair(r, places));
+            int sign = r.nextInt(12);
+            text.append(sign == 0 ? "+" : sign == 1 ? "-" : "").append(r.nextInt(2) == 0 ? "" : "" + (1 + r.nextInt(9)));
+        }
+        if (r.nextInt(6) == 0) {
+            text.setCharAt(r.nextInt(text.length()), "abcdefg:,+-0159".charAt(r.nextInt(15)));
+        }
+        if (r.nextInt(10) == 0) {
+            text.setLength(r.nextInt(text.length()));
+        }
+        x.blank();
+        y.blank();
+        for (int at = 0; at < text.length(); at += 8) {
+            long w = Check.packed(text.substring(at, Math.min(at + 8, text.length())));
+            x.letters(w);
+            y.letters(w);
+        }
+        if (r.nextInt(4) > 0) {
+            x.net();
+            y.net();
+        }
+    }
+
+    private static String pair(Random r, int places) {
+        int a = r.nextInt(places);
+        int b = (a + 1 + r.nextInt(places - 1)) % places;
+        return "" + (char) ('a' + a) + (char) ('a' + b);
+    }
+
+    private static long ask(CutsOrFast x, String call, int[] a, long w) {
+        switch (call) {
+            case "letters": return x.letters(w);
+            case "blank": return x.blank();
+            case "fault": return x.fault();
+            case "net": return x.net();
+            case "lane": return x.lane(a[0], a[1]);
+            case "status": return x.status();
+            case "begin": return x.begin(a[0]);
+            case "take": return x.take(a[0]);
+            case "back": return x.back();
+            case "whose": return x.whose(a[0]);
+            case "by": return x.by(a[0]);
+            case "answer": return x.answer(a[0]);
+            case "lost": return x.lost();
+            case "ways": return x.ways();
+            case "parting": return x.parting(a[0]);
+            case "mend": return x.mend(a[0]);
+            case "bought": return x.bought(a[0]);
+            case "likely": return x.likely(a[0], a[1] & 1);
+            case "player": return x.player(a[0]);
+            case "as": return x.as(a[0], a[1]);
+            case "move": return x.move(a[0], a[2]);
+            case "game": return x.game(a[0] & 3, a[1], a[2], a[3]);
+            case "image": return x.image();
+            case "restore": return x.restore();
+            case "count": return x.count(a[0]);
+            default: return x.digest();
+        }
+    }
+
+    private static long ask(Slow x, String call, int[] a, long w) {
+        switch (call) {
+            case "letters": return x.letters(w);
+            case "blank": return x.blank();
+            case "fault": return x.fault();
+            case "net": return x.net();
+            case "lane": return x.lane(a[0], a[1]);
+            case "status": return x.status();
+            case "begin": return x.begin(a[0]);
+            case "take": return x.take(a[0]);
+            case "back": return x.back();
+            case "whose": return x.whose(a[0]);
+            case "by": return x.by(a[0]);
+            case "answer": return x.answer(a[0]);
+            case "lost": return x.lost();
+            case "ways": return x.ways();
+            case "parting": return x.parting(a[0]);
+            case "mend": return x.mend(a[0]);
+            case "bought": return x.bought(a[0]);
+            case "likely": return x.likely(a[0], a[1] & 1);
+            case "player": return x.player(a[0]);
+            case "as": return x.as(a[0], a[1]);
+            case "move": return x.move(a[0], a[2]);
+            case "game": return x.game(a[0] & 3, a[1], a[2], a[3]);
+            case "image": return x.image();
+            case "restore": return x.restore();
+            case "count": return x.count(a[0]);
+            default: return x.digest();
+        }
+    }
+}
