@@ -826,6 +826,7 @@ public final class CutsOrFast {
         // Answers found, each below the stamp that held then: forgetting needs no pass over the row.
         private final long[] known = new long[2 * STANDS_WITH_ONE_MORE + 2 * HOWS * STANDS];
         private long stamp = 1;
+        private long lastStamp = 1;
 
         Search(Net net) {
             this.net = net;
@@ -841,7 +842,17 @@ public final class CutsOrFast {
 
         /** To be called whenever the net has become another one. */
         void forget() {
-            stamp++;
+            lastStamp++;
+            stamp = lastStamp;
+        }
+
+        long stampNow() {
+            return stamp;
+        }
+
+        /** To be called when the net is again the one of an earlier stamp: what is left of its answers holds. */
+        void recall(long earlier) {
+            stamp = earlier;
         }
 
         /** Who has it with that one to move. */
@@ -994,13 +1005,14 @@ public final class CutsOrFast {
             if (search.owner(fast, cut, JOIN) == CUT) {
                 return IN_VAIN;
             }
+            long before = search.stampNow();
             int found = IN_VAIN;
             for (int pair = 0; pair < PLACES * PLACES && found == IN_VAIN; pair++) {
                 if (pair / PLACES < pair % PLACES && mends(pair / PLACES, pair % PLACES, fast, cut)) {
                     found = pair;
                 }
             }
-            search.forget();
+            search.recall(before);
             return found;
         }
 
