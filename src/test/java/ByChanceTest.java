@@ -12,7 +12,9 @@ public final class ByChanceTest {
         Check check = new Check("ByChanceTest");
         for (int run = 0; run < runs; run++) {
             run(check, from + run);
+            mendOfNine(check, from + run);
         }
+        wildCalls(check, from);
         check.end();
     }
 
@@ -41,6 +43,50 @@ public final class ByChanceTest {
                 }
             }
         }
+    }
+
+    /** The net with the most lanes, so that the one that mends is the tenth. */
+    private static void mendOfNine(Check check, long seed) {
+        Random r = new Random(~seed);
+        int places = 4 + r.nextInt(3);
+        StringBuilder text = new StringBuilder(pair(r, places)).append(':');
+        for (int i = 0; i < 9; i++) {
+            text.append(i == 0 ? "" : ",").append(pair(r, places));
+        }
+        CutsOrFast x = new CutsOrFast();
+        Slow y = new Slow();
+        for (int at = 0; at < text.length(); at += 8) {
+            long w = Check.packed(text.substring(at, Math.min(at + 8, text.length())));
+            x.letters(w);
+            y.letters(w);
+        }
+        x.net();
+        y.net();
+        check.due("the likely one of " + text, x.likely(0, 0), y.likely(0, 0));
+        for (int what = 0; what < 3; what++) {
+            check.due("mend " + what + " of " + text, x.mend(what), y.mend(what));
+        }
+        check.due("digest of " + text, x.digest(), y.digest());
+    }
+
+    /** Any arguments at all, and more calls than an object is made for: each must only come back. */
+    private static void wildCalls(Check check, long seed) {
+        Random r = new Random(seed);
+        CutsOrFast x = Check.made("ab:ac,cb,ad,db,cd,ae,eb,af,fb");
+        int[] edges = {Integer.MIN_VALUE, Integer.MAX_VALUE, -1, 0, 1, 4, 5, 8, 9, 31, 32, 33};
+        for (int i = 0; i < 4000; i++) {
+            int[] a = new int[4];
+            for (int k = 0; k < 4; k++) {
+                a[k] = r.nextInt(3) == 0 ? r.nextInt() : edges[r.nextInt(edges.length)];
+            }
+            if (i % 100 == 99) {
+                x.blank();
+                Check.write(x, "fe:fa,ab,bc,cd,de,fe,ac,bd,ce");
+                x.net();
+            }
+            ask(x, CALLS[r.nextInt(CALLS.length)], a, r.nextLong() & r.nextLong());
+        }
+        check.due("it still reads", x.count(8) > 1);
     }
 
     private static int number(Random r) {

@@ -213,6 +213,8 @@ public final class PromisesTest {
         due("7: not by open ones", made("ab:ac+,cb").status(), 0);
         due("7: parted", made("ab:ac,cb-").status(), 2);
         due("7: parted without a lane", made("ab:cd").status(), 2);
+        due("7: from end to end over all places", made("ab:fb+,ef+,de+,cd+,ac+").status(), 1);
+        due("7: the other way round", made("ba:fb+,ef+,de+,cd+,ac+").status(), 1);
         due("7: by a move", made("ab:ab", 0).status(), 1);
     }
 
@@ -363,6 +365,8 @@ public final class PromisesTest {
         due("16: one", x.parting(0), 1);
         x = made("ab:ac+,cb,cb");
         due("16: open ones", x.parting(1), 6);
+        x = made("ab:ab,ba,ab,ba,ab,ba,ab,ba,ab");
+        due("16: nine", x.parting(0) * 1000 + x.parting(1), 9511);
         x = made("ab:ab+");
         due("16: joined", x.parting(0), NONE);
         due("16: joined, which", x.parting(1), NONE);
@@ -389,6 +393,8 @@ public final class PromisesTest {
         due("17: by a lane alike", x.mend(0), 1);
         due("17: the lesser place first", x.mend(1) * 10 + x.mend(2), 5);
         due("17: of nine and one more", made("ab:ac,cb,ad,db,cd,ae,eb,af,fb").mend(0), 1);
+        x = made("bd:cf,fe,bc,fa,ef,ea,bf,fd,ed");
+        due("17: the tenth lane", x.mend(0) * 100 + x.mend(1) * 10 + x.mend(2), 101);
         x = made("dc:db,ba,ac,db,ba");
         due("17: the missing way", x.mend(1) * 10 + x.mend(2), 2);
         x = made("ab:ab,ab");
@@ -508,6 +514,9 @@ public final class PromisesTest {
         // Of like cost the least.
         moves("ab:cd-,ac3,cb3,ad3,db3", 0, 1, 1, 1, 1);
         moves("ab:ae,ef,fb,ac1,cb9,ad,db9", 0, 0, 0, 3, 4);
+        // One way over all places, told from its far end and from its near one.
+        moves("ab:fb,ef,de9,cd,ac", 0, 0, 0, 0, 2);
+        moves("ba:fb,ef,de9,cd,ac", 0, 0, 0, 0, 2);
         // None has it: the least of all.
         moves("ab:cd,ac,cb", 0, 0, 0, 1, 1);
         CutsOrFast x = withAll("ab:ab-,ac,cb,ad,db");
@@ -613,6 +622,10 @@ public final class PromisesTest {
         }
         due("27: by hand", x.digest(), h);
         due("27: nothing changed", x.digest(), h);
+        x = made(BRIDGE, 4, 0, 1);
+        due("27: in order", x.digest(), foldOf(x));
+        x = made("ab:ac2,cb3,ab-4,ad+5", 1, 0);
+        due("27: in order, parted", x.digest(), foldOf(x));
         x = new CutsOrFast();
         x.player(4);
         x.player(0);
@@ -622,5 +635,21 @@ public final class PromisesTest {
             h = 31 * h + number;
         }
         due("27: without a net", x.digest(), h);
+    }
+
+    /** What digest() tells of an object without players and letters, by what the other calls tell. */
+    private static long foldOf(CutsOrFast x) {
+        long h = 587;
+        for (int i = 0; i < x.count(0); i++) {
+            h = ((((h * 31 + x.lane(i, 0)) * 31 + x.lane(i, 1)) * 31) + x.lane(i, 2)) * 31 + x.lane(i, 3);
+        }
+        int[] told = {x.status(), x.whose(0), x.whose(1), x.by(0), x.by(1), x.lost(), x.ways(), x.parting(0), x.parting(1),
+            x.bought(0), x.bought(1), x.likely(0, 0), x.likely(0, 1), x.likely(1, 0), x.likely(1, 1), x.likely(2, 0),
+            x.likely(2, 1), x.count(0), x.count(1), x.count(2), x.count(3), x.count(4), x.count(5), x.count(6), x.count(7),
+            x.count(8), x.count(9)};
+        for (int number : told) {
+            h = 31 * h + number;
+        }
+        return h;
     }
 }
