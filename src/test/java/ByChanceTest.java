@@ -1,3 +1,6 @@
+import java.lang.reflect.Method;
+import java.lang.reflect.Modifier;
+import java.util.Arrays;
 import java.util.Random;
 
 /** Runs of calls by chance, answered by CutsOrFast and by Slow: both must answer alike. */
@@ -31,7 +34,10 @@ public final class ByChanceTest {
             if (r.nextInt(4) == 0) {
                 call = "take";
             }
-            int[] a = {number(r), number(r), r.nextInt(9) == 0 ? -r.nextInt(9) : r.nextInt() & 0x7fffffff, number(r)};
+            int[] a = {number(r), number(r), number(r), number(r)};
+            if (call.equals("move") || call.equals("game")) {
+                a[call.equals("move") ? 1 : 2] = r.nextInt(9) == 0 ? -r.nextInt(9) : r.nextInt() & 0x7fffffff;
+            }
             long w = word(r);
             long got = ask(x, call, a, w);
             long want = ask(y, call, a, w);
@@ -138,65 +144,25 @@ public final class ByChanceTest {
         return "" + (char) ('a' + a) + (char) ('a' + b);
     }
 
-    private static long ask(CutsOrFast x, String call, int[] a, long w) {
-        switch (call) {
-            case "letters": return x.letters(w);
-            case "blank": return x.blank();
-            case "fault": return x.fault();
-            case "net": return x.net();
-            case "lane": return x.lane(a[0], a[1]);
-            case "status": return x.status();
-            case "begin": return x.begin(a[0]);
-            case "take": return x.take(a[0]);
-            case "back": return x.back();
-            case "whose": return x.whose(a[0]);
-            case "by": return x.by(a[0]);
-            case "answer": return x.answer(a[0]);
-            case "lost": return x.lost();
-            case "ways": return x.ways();
-            case "parting": return x.parting(a[0]);
-            case "mend": return x.mend(a[0]);
-            case "bought": return x.bought(a[0]);
-            case "likely": return x.likely(a[0], a[1] & 1);
-            case "player": return x.player(a[0]);
-            case "as": return x.as(a[0], a[1]);
-            case "move": return x.move(a[0], a[2]);
-            case "game": return x.game(a[0] & 3, a[1], a[2], a[3]);
-            case "image": return x.image();
-            case "restore": return x.restore();
-            case "count": return x.count(a[0]);
-            default: return x.digest();
+    /** Does the call of that name, CutsOrFast's or Slow's, with as many of the numbers as it takes. */
+    private static long ask(Object x, String call, int[] numbers, long word) {
+        for (Method m : x.getClass().getDeclaredMethods()) {
+            if (m.getName().equals(call) && !Modifier.isPrivate(m.getModifiers())) {
+                Object[] given = new Object[m.getParameterCount()];
+                for (int i = 0; i < given.length; i++) {
+                    given[i] = m.getParameterTypes()[i] == long.class ? (Object) word : (Object) numbers[i];
+                }
+                return called(x, m, given);
+            }
         }
+        throw new IllegalArgumentException(call);
     }
 
-    private static long ask(Slow x, String call, int[] a, long w) {
-        switch (call) {
-            case "letters": return x.letters(w);
-            case "blank": return x.blank();
-            case "fault": return x.fault();
-            case "net": return x.net();
-            case "lane": return x.lane(a[0], a[1]);
-            case "status": return x.status();
-            case "begin": return x.begin(a[0]);
-            case "take": return x.take(a[0]);
-            case "back": return x.back();
-            case "whose": return x.whose(a[0]);
-            case "by": return x.by(a[0]);
-            case "answer": return x.answer(a[0]);
-            case "lost": return x.lost();
-            case "ways": return x.ways();
-            case "parting": return x.parting(a[0]);
-            case "mend": return x.mend(a[0]);
-            case "bought": return x.bought(a[0]);
-            case "likely": return x.likely(a[0], a[1] & 1);
-            case "player": return x.player(a[0]);
-            case "as": return x.as(a[0], a[1]);
-            case "move": return x.move(a[0], a[2]);
-            case "game": return x.game(a[0] & 3, a[1], a[2], a[3]);
-            case "image": return x.image();
-            case "restore": return x.restore();
-            case "count": return x.count(a[0]);
-            default: return x.digest();
+    private static long called(Object x, Method m, Object[] given) {
+        try {
+            return ((Number) m.invoke(x, given)).longValue();
+        } catch (ReflectiveOperationException e) {
+            throw new IllegalStateException(m + " " + Arrays.toString(given), e);
         }
     }
 }
