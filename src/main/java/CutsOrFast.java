@@ -406,7 +406,7 @@ public final class CutsOrFast {
     }
 
     private static int factorial(int of) {
-        return at(FACTORIALS, of);
+        return of >= 0 && of < FACTORIALS.length ? FACTORIALS[of] : 0;
     }
 
     private static int greatestDivisor(int one, int other) {
@@ -857,7 +857,8 @@ public final class CutsOrFast {
 
         /** Who has it with that one to move. */
         int owner(int fast, int cut, int mover) {
-            return worth(NONE_BY_CHANCE, fast, cut, mover) > 0 ? JOIN : CUT;
+            int left = Integer.bitCount(net.all() & ~fast & ~cut);
+            return worthOf(NONE_BY_CHANCE, fast, cut, mover, left) > 0 ? JOIN : CUT;
         }
 
         /** The least lane behind which that one has it, if it is to move. */

@@ -1,14 +1,7 @@
-import java.lang.reflect.Method;
-import java.lang.reflect.Modifier;
-import java.util.Arrays;
 import java.util.Random;
 
 /** Runs of calls by chance, answered by CutsOrFast and by Slow: both must answer alike. */
 public final class ByChanceTest {
-    private static final String[] CALLS = {"letters", "blank", "fault", "net", "lane", "status", "begin", "take", "back",
-        "whose", "by", "answer", "lost", "ways", "parting", "mend", "bought", "likely", "player", "as", "move", "game",
-        "image", "restore", "count", "digest"};
-
     public static void main(String[] args) {
         long from = args.length > 0 ? Long.parseLong(args[0]) : 1;
         int runs = args.length > 1 ? Integer.parseInt(args[1]) : 120;
@@ -30,7 +23,7 @@ public final class ByChanceTest {
             if (r.nextInt(20) == 0 || i == 3) {
                 writeNet(r, x, y, small);
             }
-            String call = CALLS[r.nextInt(CALLS.length)];
+            String call = Calls.NAMES.get(r.nextInt(Calls.NAMES.size()));
             if (r.nextInt(4) == 0) {
                 call = "take";
             }
@@ -39,8 +32,8 @@ public final class ByChanceTest {
                 a[call.equals("move") ? 1 : 2] = r.nextInt(9) == 0 ? -r.nextInt(9) : r.nextInt() & 0x7fffffff;
             }
             long w = word(r);
-            long got = ask(x, call, a, w);
-            long want = ask(y, call, a, w);
+            long got = Calls.ask(x, call, a, w);
+            long want = Calls.ask(y, call, a, w);
             check.due("seed " + seed + ", call " + i + ": " + call, got, want);
             if (call.equals("net") || i % 40 == 39) {
                 check.due("seed " + seed + ", call " + i + ": digest behind " + call, x.digest(), y.digest());
@@ -90,7 +83,7 @@ public final class ByChanceTest {
                 Check.write(x, "fe:fa,ab,bc,cd,de,fe,ac,bd,ce");
                 x.net();
             }
-            ask(x, CALLS[r.nextInt(CALLS.length)], a, r.nextLong() & r.nextLong());
+            Calls.ask(x, Calls.NAMES.get(r.nextInt(Calls.NAMES.size())), a, r.nextLong() & r.nextLong());
         }
         check.due("it still reads", x.count(8) > 1);
     }
@@ -142,27 +135,5 @@ public final class ByChanceTest {
         int a = r.nextInt(places);
         int b = (a + 1 + r.nextInt(places - 1)) % places;
         return "" + (char) ('a' + a) + (char) ('a' + b);
-    }
-
-    /** Does the call of that name, CutsOrFast's or Slow's, with as many of the numbers as it takes. */
-    private static long ask(Object x, String call, int[] numbers, long word) {
-        for (Method m : x.getClass().getDeclaredMethods()) {
-            if (m.getName().equals(call) && !Modifier.isPrivate(m.getModifiers())) {
-                Object[] given = new Object[m.getParameterCount()];
-                for (int i = 0; i < given.length; i++) {
-                    given[i] = m.getParameterTypes()[i] == long.class ? (Object) word : (Object) numbers[i];
-                }
-                return called(x, m, given);
-            }
-        }
-        throw new IllegalArgumentException(call);
-    }
-
-    private static long called(Object x, Method m, Object[] given) {
-        try {
-            return ((Number) m.invoke(x, given)).longValue();
-        } catch (ReflectiveOperationException e) {
-            throw new IllegalStateException(m + " " + Arrays.toString(given), e);
-        }
     }
 }
