@@ -426,7 +426,17 @@ public final class CutsOrFast {
         return i >= 0 && i < row.length ? row[i] : 0;
     }
 
+    private static long at(long[] row, int i) {
+        return i >= 0 && i < row.length ? row[i] : 0;
+    }
+
     private static void put(int[] row, int i, int value) {
+        if (i >= 0 && i < row.length) {
+            row[i] = value;
+        }
+    }
+
+    private static void put(long[] row, int i, long value) {
         if (i >= 0 && i < row.length) {
             row[i] = value;
         }
@@ -811,22 +821,27 @@ public final class CutsOrFast {
     }
 
     /**
-     * How likely it is that the ends are joined in the end. One who has it is as likely as can be when nobody moves
-     * by chance, so HAS IT is asked here too.
+     * Who has it, and how likely it is that the ends are joined in the end, by trying all moves. What is found is kept,
+     * each stand once, in few elements: many objects share one room.
      */
     private static final class Search {
-        static final int CUT_BY_CHANCE = 0, JOIN_BY_CHANCE = 1, BOTH_BY_CHANCE = 2, NONE_BY_CHANCE = 3;
+        static final int CUT_BY_CHANCE = 0, JOIN_BY_CHANCE = 1, BOTH_BY_CHANCE = 2;
 
         // How many stands there are of nine lanes, and of ten: each is open, fast or cut.
         private static final int STANDS = 19683, STANDS_WITH_ONE_MORE = 59049;
+        // An owner takes two bits: 0 when it is not found yet, else one more than it.
+        private static final int OWNERS_A_LONG = 32, OWNER_BITS = 2, OWNER_MASK = 3;
+        // Likewise what is found of each way to ask how likely it is, in twenty bits: nine factorial is less.
+        private static final int WORTH_BITS = 20, WORTH_MASK = (1 << WORTH_BITS) - 1;
 
         private final Net net;
-        // A set of lanes as a number by threes, so that a stand has a place of its own in known.
+        // A set of lanes as a number by threes, so that a stand has a number of its own.
         private final int[] threes = new int[1 << (MOST_LANES + 1)];
-        // Answers found, each below the stamp that held then: forgetting needs no pass over the row.
-        private final long[] known = new long[2 * STANDS_WITH_ONE_MORE + 2 * HOWS * STANDS];
-        private long stamp = 1;
-        private long lastStamp = 1;
+        // By stand and who is to move.
+        private final long[] owners = new long[2 * STANDS_WITH_ONE_MORE / OWNERS_A_LONG + 1];
+        // By stand alone: by turns, one side alone can be to move in it.
+        private final long[] worths = new long[STANDS];
+        private int turnsKept = NONE;
 
         Search(Net net) {
             this.net = net;
@@ -842,23 +857,27 @@ public final class CutsOrFast {
 
         /** To be called whenever the net has become another one. */
         void forget() {
-            lastStamp++;
-            stamp = lastStamp;
+            empty(owners);
+            turnsKept = NONE;
         }
 
-        long stampNow() {
-            return stamp;
+        private static void empty(long[] row) {
+            for (int i = 0; i < row.length; i++) {
+                row[i] = 0;
+            }
         }
 
-        /** To be called when the net is again the one of an earlier stamp: what is left of its answers holds. */
-        void recall(long earlier) {
-            stamp = earlier;
+        private int openSet(int fast, int cut) {
+            return net.all() & ~fast & ~cut;
+        }
+
+        private int standOf(int fast, int cut) {
+            return at(threes, fast) + 2 * at(threes, cut);
         }
 
         /** Who has it with that one to move. */
         int owner(int fast, int cut, int mover) {
-            int left = Integer.bitCount(net.all() & ~fast & ~cut);
-            return worthOf(NONE_BY_CHANCE, fast, cut, mover, left) > 0 ? JOIN : CUT;
+            return ownerOf(fast, cut, mover, Integer.bitCount(openSet(fast, cut)));
         }
 
         /** The least lane behind which that one has it, if it is to move. */
@@ -866,11 +885,39 @@ public final class CutsOrFast {
             if (net.outcome(fast, cut) != NEITHER) {
                 return NONE;
             }
-            int open = net.all() & ~fast & ~cut;
+            return ownersMove(fast, cut, mover, Integer.bitCount(openSet(fast, cut)));
+        }
+
+        private int ownerOf(int fast, int cut, int mover, int left) {
+            if (net.joins(fast)) {
+                return JOIN;
+            }
+            if (left <= 0 || !net.joins(net.all() & ~cut)) {
+                return CUT;
+            }
+            int place = 2 * standOf(fast, cut) + mover;
+            int shift = OWNER_BITS * (place % OWNERS_A_LONG);
+            long kept = at(owners, place / OWNERS_A_LONG);
+            int known = (int) (kept >>> shift) & OWNER_MASK;
+            if (known != 0) {
+                return known - 1;
+            }
+            int found = ownersMove(fast, cut, mover, left) == NONE ? 1 - mover : mover;
+            // Moves behind this one may have kept something beside it.
+            kept = at(owners, place / OWNERS_A_LONG);
+            put(owners, place / OWNERS_A_LONG, kept | (long) (found + 1) << shift);
+            return found;
+        }
+
+        /** The least lane by which the mover has it, of so many open ones. */
+        private int ownersMove(int fast, int cut, int mover, int left) {
+            int open = openSet(fast, cut);
             for (int lane = 0; lane < net.size(); lane++) {
                 int bit = 1 << lane;
                 if ((open & bit) != 0) {
-                    int owner = mover == JOIN ? owner(fast | bit, cut, CUT) : owner(fast, cut | bit, JOIN);
+                    int owner = mover == JOIN
+                        ? ownerOf(fast | bit, cut, CUT, left - 1)
+                        : ownerOf(fast, cut | bit, JOIN, left - 1);
                     if (owner == mover) {
                         return lane;
                     }
@@ -884,8 +931,13 @@ public final class CutsOrFast {
          * chance divides by the open ones.
          */
         int worth(int how, int fast, int cut, int mover) {
-            int open = net.all() & ~fast & ~cut;
-            return worthOf(how, fast, cut, mover, Integer.bitCount(open));
+            int left = Integer.bitCount(openSet(fast, cut));
+            int turns = (mover + left) & 1;
+            if (turns != turnsKept) {
+                empty(worths);
+                turnsKept = turns;
+            }
+            return worthOf(how, fast, cut, mover, left);
         }
 
         private int worthOf(int how, int fast, int cut, int mover, int left) {
@@ -895,40 +947,26 @@ public final class CutsOrFast {
             if (left <= 0 || !net.joins(net.all() & ~cut)) {
                 return 0;
             }
-            int place = placeOf(how, fast, cut, mover);
-            if (place < 0 || place >= known.length) {
-                return 0;
-            }
-            if (known[place] >>> 32 == stamp) {
-                return (int) known[place];
+            int stand = standOf(fast, cut);
+            int shift = WORTH_BITS * how;
+            int known = (int) (at(worths, stand) >>> shift) & WORTH_MASK;
+            if (known != 0) {
+                return known - 1;
             }
             int found = worthByMoves(how, fast, cut, mover, left);
-            known[place] = (stamp << 32) | found;
+            put(worths, stand, at(worths, stand) | (long) (found + 1) << shift);
             return found;
         }
 
-        private int placeOf(int how, int fast, int cut, int mover) {
-            int stand = at(threes, fast) + 2 * at(threes, cut);
-            if (how == NONE_BY_CHANCE) {
-                return mover * STANDS_WITH_ONE_MORE + stand;
-            }
-            return 2 * STANDS_WITH_ONE_MORE + (2 * how + mover) * STANDS + stand;
-        }
-
         private static boolean movesByChance(int how, int mover) {
-            return how == BOTH_BY_CHANCE
-                || (how == CUT_BY_CHANCE && mover == CUT)
-                || (how == JOIN_BY_CHANCE && mover == JOIN);
+            return how == BOTH_BY_CHANCE || how == (mover == CUT ? CUT_BY_CHANCE : JOIN_BY_CHANCE);
         }
 
         private int worthByMoves(int how, int fast, int cut, int mover, int left) {
-            int open = net.all() & ~fast & ~cut;
-            boolean chance = movesByChance(how, mover);
-            int most = factorial(left - 1);
-            int aim = mover == JOIN ? most : 0;
-            int best = most - aim;
+            int open = openSet(fast, cut);
             int sum = 0;
-            for (int lane = 0; lane < net.size() && (chance || best != aim); lane++) {
+            int best = mover == JOIN ? 0 : factorial(left - 1);
+            for (int lane = 0; lane < net.size(); lane++) {
                 int bit = 1 << lane;
                 if ((open & bit) != 0) {
                     int worth = mover == JOIN
@@ -938,7 +976,7 @@ public final class CutsOrFast {
                     best = mover == JOIN ? Math.max(best, worth) : Math.min(best, worth);
                 }
             }
-            return chance ? sum : left * best;
+            return movesByChance(how, mover) ? sum : left * best;
         }
     }
 
@@ -1006,14 +1044,13 @@ public final class CutsOrFast {
             if (search.owner(fast, cut, JOIN) == CUT) {
                 return IN_VAIN;
             }
-            long before = search.stampNow();
             int found = IN_VAIN;
             for (int pair = 0; pair < PLACES * PLACES && found == IN_VAIN; pair++) {
                 if (pair / PLACES < pair % PLACES && mends(pair / PLACES, pair % PLACES, fast, cut)) {
                     found = pair;
                 }
             }
-            search.recall(before);
+            search.forget();
             return found;
         }
 

@@ -294,8 +294,9 @@ public final class EdgesOfAllTest {
             x.take(call % 9);
         }
         long[] then = held(x);
-        CHECK.due("objects of a new one: " + atFirst[0], atFirst[0] < 100);
-        CHECK.due("elements of a new one: " + atFirst[1], atFirst[1] < 300_000);
+        // Of one room, 600,000 objects and 7,300,000 elements, there must be enough for two hundred.
+        CHECK.due("objects of a new one: " + atFirst[0], 200 * atFirst[0] < 600_000);
+        CHECK.due("elements of a new one: " + atFirst[1], 200 * atFirst[1] < 7_300_000);
         CHECK.due("objects more: " + (then[0] - atFirst[0]), then[0] - atFirst[0] <= 5 * 3);
         CHECK.due("elements more: " + (then[1] - atFirst[1]), then[1] - atFirst[1] <= 5 * 20);
         CutsOrFast y = Check.made("ab:ac,cb,ad,db,cd,ae,eb,af,fb");

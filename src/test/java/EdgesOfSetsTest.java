@@ -33,6 +33,7 @@ public final class EdgesOfSetsTest {
         likelyOfOneLane();
         likelyOfNineLanes();
         likelyByWhoIsToMove();
+        likelyBehindAnotherOne();
         CHECK.end();
     }
 
@@ -315,5 +316,19 @@ public final class EdgesOfSetsTest {
         run("19: who is to move", "ab:ab,cd,ce", "likely(0,0) 1", "likely(0,1) 1", "begin(1) 0", "likely(0,0) 2", "likely(0,1) 3",
             "begin(0) 1", "likely(0,1) 1", "take(1) 1", "likely(0,0) 1", "likely(0,1) 2", "take(2) 2", "likely(0,0) 1", "likely(0,1) 1",
             "likely(2,1) 1", "back() 1", "back() 0", "likely(2,0) 2", "likely(2,1) 3");
+    }
+
+    // What was found for one who is to move must not be told for the other one, nor for another net.
+    private static void likelyBehindAnotherOne() {
+        run("19: all is the same but who is to move", "ab:ab,cd,ce", "likely(0,1) 1", "likely(1,1) 3", "likely(2,1) 3", "begin(1) 0",
+            "likely(2,0) 1", "likely(1,0) 0", "likely(0,0) 2", "begin(0) 1", "likely(1,0) 1", "likely(0,0) 1", "likely(2,0) 2");
+        run("19: an image with the other one", "ab:ab,cd,ce", "begin(1) 0", "image() 0", "likely(2,0) 1", "begin(0) 1", "likely(2,0) 2",
+            "restore() 0", "likely(2,0) 1", "likely(0,1) 3", "take(1) 1", "likely(0,1) 1", "likely(1,1) 2", "likely(2,1) 2");
+        run("19: another net", "ab:ab,cd,ce", "likely(2,0) 2", "likely(1,1) 3", "page ab:cd,ce,ab", "net() 3", "take(1) 1",
+            "likely(0,1) 2", "likely(2,1) 2", "page ab:cd,ce,cf", "net() 3", "likely(0,0) 0", "likely(2,0) 0");
+        run("19: as many lanes, but another net", "ab:ab,ac,cd", "likely(1,0) 1", "likely(1,1) 3", "page ab:ac,cb,cd", "net() 3",
+            "likely(1,0) 0", "likely(1,1) 1");
+        run("19: behind mend()", "ab:ab,cd", "likely(1,1) 2", "mend(0) 1", "likely(1,1) 2", "likely(2,1) 2", "begin(1) 0", "mend(0) 1",
+            "likely(0,1) 2", "likely(1,0) 0", "whose(0) 0", "whose(1) 1");
     }
 }
